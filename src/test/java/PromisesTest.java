@@ -387,6 +387,8 @@ public final class PromisesTest {
             due("plain(" + t + ")", y.plain(t), plain[t]);
         }
         due("plain(5)", y.plain(5), NONE);
+        HoloNet four = told("table a 4 1 2 2 3 2 3 3 4 2 3 3 4 3 4 4 5;table b 4 1 2 2 3 2 3 3 4 2 3 3 4 3 4 5 5;");
+        holds("four legs", four.plain(0) == 1 && four.plain(1) == 0);
         due("plain(-1)", y.plain(-1), NONE);
     }
 
@@ -512,6 +514,8 @@ public final class PromisesTest {
         due("seek(-1)", x.seek(-1), NONE);
         due("another text is sought anew", tell(x, "field 7;table o 1 1 1;"), 2);
         due("seek(0) by 7", x.seek(0), 7 * 1 + 6);
+        due("and a third one", tell(x, "field 11;table o 1 1 1;"), 2);
+        due("seek(0) by 11", x.seek(0), 11 * 1 + 10);
         HoloNet y = told("field 97;table a 2 1 0 0 1;table k 2 1 2 3 0;");
         due("seek(0) by 97", y.seek(0), 97 * 1 + 96);
         // Its sum is 6, so EVEN is left alone: by leg 0 4 x + 2 y, by leg 1 3 x + 3 y can't both be 0.
