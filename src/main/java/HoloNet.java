@@ -4,7 +4,7 @@ import java.util.NoSuchElementException;
  * Signature tables, matchgates, changes of base and networks summed, modulo a prime.
  *
  * <p>Words in capitals (TABLE, LEG, OPEN ..) mean what the document's Terms say. Every row is made
- * in a constructor and used again, so that no call makes objects.
+ * in a constructor and used again, so that no call makes an object but what it throws.
  */
 public final class HoloNet {
     public static final int NONE = -1;
