@@ -198,11 +198,18 @@ public final class HoloNet {
         if (!isTable(table)) {
             return NONE;
         }
-        // TABLES stay as told, and with a great P the search is the dearest of all calls.
-        if (text.sought[table] == Text.NOT_SOUGHT) {
-            text.sought[table] = soughtBase(text.tables[table]);
+        // A row (x, y) made c times as great makes a VALUE c times as great for each bit set: PARITY
+        // stays, and so does a RULE that is 0. So (0, 1) stands for all (0, y), (1, y) for all others.
+        Signature asked = text.tables[table];
+        if (isMadeByRow(asked, 0, 1)) {
+            return 1;
         }
-        return text.sought[table];
+        for (int y = 0; y < text.p; y++) {
+            if (y != 1 && isMadeByRow(asked, 1, y)) {
+                return text.p + y;
+            }
+        }
+        return NONE_SUCH;
     }
 
     // ---- the net
@@ -418,28 +425,12 @@ public final class HoloNet {
         return turned.isMade(text.p);
     }
 
-    private int soughtBase(Signature asked) {
-        int p = text.p;
-        int low = asked.sumWhereLegIs(0, 0);
-        int high = asked.sumWhereLegIs(0, 1);
-        // By ((1, 1), (x, y)) the VALUE at INDEX 0 is that of all together and the one at INDEX 1
-        // is x low + y high: unless the first is 0, the second must be, which spares most trials.
-        boolean evenAlone = mod(low + high, p) != 0;
+    private boolean isMadeByRow(Signature asked, int x, int y) {
         helper.a = 1;
         helper.b = 1;
-        for (int x = 0; x < p; x++) {
-            for (int y = 0; y < p; y++) {
-                if (x == y || (evenAlone && mod(x * mod(low, p) + y * mod(high, p), p) != 0)) {
-                    continue;
-                }
-                helper.c = x;
-                helper.d = y;
-                if (isMadeBy(asked, helper)) {
-                    return p * x + y;
-                }
-            }
-        }
-        return NONE_SUCH;
+        helper.c = x;
+        helper.d = y;
+        return isMadeBy(asked, helper);
     }
 
     private void changeLegOfNet(int leg, Base by) {
@@ -557,16 +548,6 @@ public final class HoloNet {
                 }
             }
             return true;
-        }
-
-        int sumWhereLegIs(int leg, int bit) {
-            int sum = 0;
-            for (int i = 0; i < size(); i++) {
-                if ((i >> leg & 1) == bit) {
-                    sum += values[i];
-                }
-            }
-            return sum;
         }
 
         void changeLeg(int leg, Base by, int p) {
@@ -849,12 +830,9 @@ public final class HoloNet {
 
     /** What a TEXT tells: P, TABLES, BASES, and the NET as it is at first. */
     private static final class Text {
-        static final int NOT_SOUGHT = 0;
-
         int p = USUAL_FIELD;
         int tableCount = 0;
         final Signature[] tables = new Signature[MOST_TABLES];
-        final int[] sought = new int[MOST_TABLES];
         int baseCount = 0;
         final Base[] bases = new Base[MOST_BASES];
         final Net start = new Net();
@@ -879,9 +857,6 @@ public final class HoloNet {
             nameCount = 0;
             start.nodeCount = 0;
             start.wireCount = 0;
-            for (int table = 0; table < MOST_TABLES; table++) {
-                sought[table] = NOT_SOUGHT;
-            }
         }
 
         void addName(int name, int kind, int number) {
