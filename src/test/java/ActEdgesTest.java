@@ -132,6 +132,16 @@ public final class ActEdgesTest extends Checks {
         HoloNet y = told(table("q", 1, 0, 0, 0) + "base b 2 3 1 4;node a q;wire a 1 a 0;");
         y.change(0, 0);
         row("of one NODE", nodeValues(y, 0), 10 - 7, 10 - 7, 5, 5);
+        for (int p : new int[] {3, 7, 97}) {
+            for (int d = 1; d < p; d++) {
+                // ad - bc is d: (1, 1) stays at bit 0, and is the inverse of d at bit 1.
+                HoloNet each = told("field " + p + ";" + table("q", 1, 1) + "base b 1 0 0 " + d + ";node a q;node c q;wire a 0 c 0;");
+                each.change(0, 0);
+                row("the LEG told first by d " + d, nodeValues(each, 0), 1, d);
+                due("the other one at 0", each.node(1, 0), 1);
+                due("the other one at 1", each.node(1, 1) * d % p, 1);
+            }
+        }
         // ad - bc is -1 by the greatest P: ((0, -1), (-1, 0)) by -1 is ((0, 1), (1, 0)).
         HoloNet z = told("field 97;" + table("q", 95, 96) + "base b 0 1 1 0;node a q;node c q;wire a 0 c 0;");
         z.change(0, 0);
@@ -586,15 +596,28 @@ public final class ActEdgesTest extends Checks {
         row("and once more", wireEnds(z, 0), 1, 2, 2, 0);
         due("joined at the end", z.join(0, 0, 1, 1), 1);
         row("joined at the end", wireEnds(z, 1), 0, 0, 1, 1);
+        for (int wire = 0; wire < 10; wire++) {
+            HoloNet ten = tenWires();
+            ten.cut(wire);
+            for (int w = 0; w < 9; w++) {
+                int before = w < wire ? w : w + 1;
+                row("of 10 without " + wire + ", " + w, wireEnds(ten, w), before / 2, before % 2 * 2, before / 2, before % 2 * 2 + 1);
+            }
+        }
+    }
+
+    /** Five NODES of four LEGS; WIRE k is of NODE k / 2, its LEGS 0 and 1 or 2 and 3. */
+    private static HoloNet tenWires() {
+        return told("table t 4" + times(16, " 1") + ";node a t;node b t;node c t;node d t;node e t;"
+            + "wire a 0 a 1;wire a 2 a 3;wire b 0 b 1;wire b 2 b 3;wire c 0 c 1;wire c 2 c 3;wire d 0 d 1;wire d 2 d 3;wire e 0 e 1;"
+            + "wire e 2 e 3;");
     }
 
     private static void cutHowMany() {
         HoloNet x = told(NET);
         row("down to none", new int[] {x.cut(2), x.cut(0), x.cut(0), x.cut(0)}, 2, 1, 0, NONE);
         due("WIRES", x.count(4), 0);
-        HoloNet ten = told("table t 4" + times(16, " 1") + ";node a t;node b t;node c t;node d t;node e t;"
-            + "wire a 0 a 1;wire a 2 a 3;wire b 0 b 1;wire b 2 b 3;wire c 0 c 1;wire c 2 c 3;wire d 0 d 1;wire d 2 d 3;wire e 0 e 1;"
-            + "wire e 2 e 3;");
+        HoloNet ten = tenWires();
         for (int k = 9; k >= 0; k--) {
             due("of 10", ten.cut(k), k);
         }

@@ -243,9 +243,25 @@ public final class TableEdgesTest extends Checks {
         row("d", new int[] {x.rank(3, 3), x.rank(3, 12), x.rank(3, 5), x.rank(3, 10), x.rank(3, 6), x.rank(3, 1),
             x.rank(3, 8), x.rank(3, 7), x.rank(3, 14)}, 4, 4, 1, 1, 4, 2, 2, 2, 2);
         row("three of four", new int[] {x.rank(4, 3), x.rank(4, 12), x.rank(4, 5)}, 3, 3, 2);
+        for (int power = 0; power <= 3; power++) {
+            due("row and column together to the power " + power, told("field 97;" + table("a", powers(power))).rank(0, 3), power + 1);
+            due("by the other LEGS", told("field 97;" + table("a", powers(power))).rank(0, 12), power + 1);
+        }
         // 2 4 - 1 1 is 7.
         due("modulo 7", told(table("a", 2, 1, 1, 4)).rank(0, 1), 1);
         due("modulo 11", told("field 11;" + table("a", 2, 1, 1, 4)).rank(0, 1), 2);
+    }
+
+    /** Of a row by LEGS 0, 1 and a column by LEGS 2, 3: 1 more than both together, to a power. */
+    private static int[] powers(int power) {
+        int[] values = new int[16];
+        for (int i = 0; i < 16; i++) {
+            values[i] = 1;
+            for (int k = 0; k < power; k++) {
+                values[i] = values[i] * ((i & 3) + (i >> 2) + 1) % 97;
+            }
+        }
+        return values;
     }
 
     // ---- promises 4 to 10

@@ -67,6 +67,7 @@ public final class TextEdgesTest extends Checks {
     }
 
     private static void promises() {
+        sentence("Terms", "The constants: `NONE = -1`: None.", () -> due("NONE", HoloNet.NONE, -1));
         sentence("Promise 1", "P is 7; no TABLES, no NODES.", TextEdgesTest::newObject);
         sentence("Promise 2", "Twenty bytes come behind THE TAPE", TextEdgesTest::twentyBytes);
         sentence("Promise 2", "of each number the highest first", TextEdgesTest::highestFirst);
@@ -91,7 +92,9 @@ public final class TextEdgesTest extends Checks {
     private static void tapeHas700() {
         due("the last byte counts", tell(new HoloNet(), times(699, " ") + "?"), faultAt(699, 1));
         lines(2, "table a 1 0 0;" + times(672, " ") + "table b 1 0 0;");
-        due("the end of all", tell(new HoloNet(), times(695, " ") + "table"), faultAt(700, 1));
+        due("a WORD up to the end", tell(new HoloNet(), times(695, " ") + "table"), faultAt(700, 1));
+        due("a NUMBER up to the end", tell(new HoloNet(), times(692, " ") + "field 11"), faultAt(700, 1));
+        lines(0, times(700, " "));
     }
 
     private static void blanks() {
@@ -118,14 +121,32 @@ public final class TextEdgesTest extends Checks {
         fault(1, "^tablea 1 0 0;");
         lines(2, "table a1 0 0;node n a;");
         lines(4, "table a1 0 0;node n a;node k a;wire n0k0;");
-        // Names of all lengths, and of six letters that part at one alone: none is another one.
         lines(8, "table a 1 0 0;gate aa 1 1;gate aaa 1 1;gate aaaa 1 1;gate aaaaa 1 1;gate aaaaaa 1 1;"
             + "gate baaaaa 1 1;gate aaaaab 1 1;");
         fault(2, "gate zyxwvu 1 1;gate ^zyxwvu 1 1;");
+        for (String word : new String[] {"aaaaaa", "zzzzzz", "mpapzo"}) {
+            wordsThatPartAtOneLetter(word);
+        }
         fault(1, "table ^A 1 0 0;");
         fault(1, "table a^B 1 0 0;");
         fault(1, "table a^` 1 0 0;");
         fault(1, "table a^{ 1 0 0;");
+    }
+
+    private static void wordsThatPartAtOneLetter(String word) {
+        for (int k = 0; k < 6; k++) {
+            for (char letter = 'a'; letter <= 'z'; letter++) {
+                String other = word.substring(0, k) + letter + word.substring(k + 1);
+                if (!other.equals(word)) {
+                    lines(2, "gate " + word + " 1 1;gate " + other + " 1 1;");
+                }
+            }
+            if (k > 0) {
+                lines(2, "gate " + word + " 1 1;gate " + word.substring(k) + " 1 1;");
+                lines(2, "gate " + word + " 1 1;gate " + word.substring(0, k) + " 1 1;");
+                lines(2, "gate a" + word.substring(k) + " 1 1;gate " + word.substring(k) + " 1 1;");
+            }
+        }
     }
 
     private static void numbers() {
@@ -136,6 +157,8 @@ public final class TextEdgesTest extends Checks {
         fault(1, "table a 1 0 ^001;");
         fault(1, "field ^007;");
         fault(1, "field ^" + times(30, "9") + ";");
+        // The letters of "gate" in five bits each are 231045: no NUMBER is taken for a WORD by that.
+        fault(1, "^231045 a 1 1;");
         lines(1, "table a 4 0 1 2 3 4 5 6 06 05 04 03 02 01 00 0 1;");
         due("two digits, the tens first", told("field 31;" + table("a", 12, 21)).table(0, 0), 12);
         fault(1, "table a 1 0^/ 0;");
@@ -399,6 +422,9 @@ public final class TextEdgesTest extends Checks {
             fault(4, head + "base b 1 ^" + p + " 0 1;");
             fault(4, head + "base b 1 0 ^" + p + " 1;");
             fault(4, head + "base b 1 0 0 ^" + p + ";");
+            // By this d ad - bc would not be 0.
+            fault(4, head + "base b 1 1 1 ^" + p + ";");
+            fault(4, head + "base b 1 1 1 ^99;");
         }
         fault(4, "table a 4" + times(15, " 6") + " ^7;");
     }
@@ -597,6 +623,18 @@ public final class TextEdgesTest extends Checks {
         fault(3, "table a 1 0 0;node n ^aa;");
         HoloNet x = told("table a 1 0 0;node n a;");
         due("of an earlier TEXT", tell(x, "node k a;"), faultAt(7, 3));
+        // Of one with a FAULT, and of those before: at each number that a NAME can have.
+        for (int names = 1; names <= 8; names++) {
+            HoloNet y = new HoloNet();
+            for (int turn = 0; turn < 4; turn++) {
+                String text = tables(names, 0) + (turn % 2 == 0 ? "?" : "");
+                tell(y, text);
+                for (int k = 0; k < names; k++) {
+                    due("of an earlier TEXT", tell(y, "node k t" + (char) ('a' + k) + ";"), faultAt(7, 3));
+                    tell(y, text);
+                }
+            }
+        }
     }
 
     private static void nameOfAnotherKind() {
@@ -762,6 +800,17 @@ public final class TextEdgesTest extends Checks {
             due("net(" + n + ")", x.net(n), want);
             due("TABLES", x.count(1), more == 0 ? n / 14 : 0);
         }
+        // Cut within a NUMBER: its first digit alone counts.
+        HoloNet y = new HoloNet();
+        feedAll(y, "field 11;");
+        due("field 1", y.net(7), faultAt(6, 4));
+        feedAll(y, "field 31;table a 1 13 12;");
+        due("VALUE 1", y.net(19), faultAt(19, 1));
+        // Cut within a WORD, and ahead of blanks.
+        feedAll(y, "table abc 1 0 0;");
+        due("NAME ab", y.net(8), faultAt(8, 1));
+        feedAll(y, "table     abc 1 0 0;");
+        due("blanks", y.net(7), faultAt(7, 1));
     }
 
     private static void tapeIsEmptyThen() {
@@ -806,6 +855,8 @@ public final class TextEdgesTest extends Checks {
         String most = "field 3;" + tables(7, 127) + "table t 4" + times(16, " 1") + ";" + bases(5) + nodes(6) + wires(10);
         lines(30, most);
         row("counts", counts(told(most)), 3, 8, 5, 6, 10, 4, 0, 0);
+        // The last of 19 NAMES is known, too.
+        lines(30, most.substring(0, most.lastIndexOf("wire")) + "wire nf 0 nf 3;");
     }
 
     private static void nothingUndoneAfterNet() {
