@@ -16,7 +16,8 @@ public final class NetEdgesTest extends Checks {
 
     private static void terms() {
         sentence("Terms 2", "A NODE has VALUES of its own: at first its TABLE's.", NetEdgesTest::valuesOfItsOwn);
-        sentence("Terms 2", "OPEN LEGS (those without a WIRE; by NODES, then LEGS)", NetEdgesTest::openByNodesThenLegs);
+        sentence("Terms 2", "NET: a setting of all WIRES to 0 or 1", NetEdgesTest::wiresAreZeroOrOne);
+        sentence("Terms 2", "and of OPEN LEGS (those without a WIRE; by NODES, then LEGS)", NetEdgesTest::openByNodesThenLegs);
         sentence("Terms 2", "by an INDEX (the first OPEN LEG the lowest bit)", NetEdgesTest::firstOpenIsLowest);
         sentence("Terms 2", "PRODUCT of all NODES' VALUES at their LEGS' bits.", NetEdgesTest::productOfAll);
         sentence("Terms 2", "SUM at an INDEX: of all settings of WIRES (1 without NODES).", NetEdgesTest::sumOfAllSettings);
@@ -46,7 +47,8 @@ public final class NetEdgesTest extends Checks {
     }
 
     private static void orders() {
-        sentence("Terms 3", "the most LEGS, behind each taking", NetEdgesTest::mostBehindEachTaking);
+        sentence("Terms 3", "ORDER of NODES: taken one behind the other", NetEdgesTest::eachNodeOnce);
+        sentence("Terms 3", "its WIDTH: the most LEGS, behind each taking", NetEdgesTest::mostBehindEachTaking);
         sentence("Terms 3", "of those taken that are OPEN or lead by a WIRE to one that isn't taken.", NetEdgesTest::legsThatCount);
         sentence("Terms 3", "The best ORDER: of the least WIDTH", NetEdgesTest::leastWidth);
         sentence("Terms 3", "of like ones the first by numbers.", NetEdgesTest::firstByNumbers);
@@ -67,6 +69,26 @@ public final class NetEdgesTest extends Checks {
         row("the TABLE", tableValues(x, 0), 1, 2);
         x.plug(1, 0);
         row("plugged anew", nodeValues(x, 1), 1, 2);
+    }
+
+    private static void wiresAreZeroOrOne() {
+        // One NODE at each end of the WIRE: 2 * 5 with 0, 3 * 7 with 1.
+        String ends = "field 97;" + table("a", 2, 3) + table("b", 5, 7) + table("z", 0, 0);
+        due("both settings", told(ends + "node n a;node m b;wire n 0 m 0;").sum(0), 31);
+        due("the same the other way round", told(ends + "node n a;node m b;wire m 0 n 0;").sum(0), 31);
+        due("with 0 alone", told(ends + table("c", 5, 0) + "node n a;node m c;wire n 0 m 0;").sum(0), 10);
+        due("with 1 alone", told(ends + table("c", 0, 7) + "node n a;node m c;wire n 0 m 0;").sum(0), 21);
+        due("with none", told(ends + "node n a;node m z;wire n 0 m 0;").ways(0), 0);
+        String wires = "";
+        for (int count = 0; count <= 10; count++) {
+            HoloNet x = told("field 97;table t 4" + times(16, " 1") + ";node a t;node b t;node c t;node d t;node e t;"
+                + wires);
+            due(count + " WIRES have settings", x.ways(0), 1 << count);
+            due(count + " WIRES summed", x.sum(0), (1 << count) % 97);
+            // LEGS 0 and 1, then 2 and 3, of each NODE.
+            wires += "wire " + (char) ('a' + count / 2) + " " + count % 2 * 2 + " " + (char) ('a' + count / 2) + " "
+                + (count % 2 * 2 + 1) + ";";
+        }
     }
 
     private static void openByNodesThenLegs() {
@@ -366,6 +388,21 @@ public final class NetEdgesTest extends Checks {
 
     private static final String ENDS = table("e", 1, 1) + table("q", 1, 1, 1, 1) + table("h", 1, 1, 1, 1, 1, 1, 1, 1)
         + "table t 4" + times(16, " 1") + ";";
+
+    private static void eachNodeOnce() {
+        String nodes = "";
+        for (int count = 0; count <= 6; count++) {
+            HoloNet x = told(ENDS + nodes);
+            boolean[] taken = new boolean[6];
+            for (int node : order(x)) {
+                holds("NODE " + node + " of " + count + " is there and not taken yet", node >= 0 && node < count && !taken[node]);
+                taken[node] = true;
+            }
+            due("no NODE more", x.width(count + 1), NONE);
+            nodes += "node " + (char) ('u' + count) + " " + (count % 2 == 0 ? "h" : "q") + ";"
+                + (count > 0 ? "wire " + (char) ('u' + count) + " 0 " + (char) ('u' + count - 1) + " 1;" : "");
+        }
+    }
 
     private static void mostBehindEachTaking() {
         due("at the first", told(ENDS + "node a q;node b q;wire a 0 b 0;wire a 1 b 1;").width(0), 2);

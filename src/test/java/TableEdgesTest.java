@@ -21,21 +21,26 @@ public final class TableEdgesTest extends Checks {
         sentence("Terms 2", "An INDEX of a TABLE: bits, LEG 0 the lowest.", TableEdgesTest::legZeroIsLowest);
         sentence("Terms 2", "A MATCHING of a graph: EDGES that meet each of its POINTS just once", TableEdgesTest::matchings);
         sentence("Terms 2", "its weight: theirs multiplied (1 of none).", TableEdgesTest::weightsMultiplied);
-        sentence("Terms 2", "the weights of all MATCHINGS, together", TableEdgesTest::weightsTogether);
+        sentence("Terms 2", "A gate's TABLE: at an INDEX the weights of all MATCHINGS, together",
+            TableEdgesTest::weightsTogether);
         sentence("Terms 2", "of its graph without those of POINTS 0, 1, .. (one a LEG) whose bit is set.",
             TableEdgesTest::pointsTakenOut);
-        sentence("Terms 2", "EVEN (0), if each VALUE but 0 is at an INDEX with an even number of bits; ODD (1) likewise",
+        sentence("Terms 2", "PARITY of a TABLE: EVEN (0), if each VALUE but 0 is at an INDEX with an even number of bits; "
+            + "ODD (1) likewise",
             TableEdgesTest::evenAndOdd);
         sentence("Terms 2", "NIL (2), if all are 0", TableEdgesTest::nil);
         sentence("Terms 2", "NONE (3), else.", TableEdgesTest::mixed);
-        sentence("Terms 2", "EVEN RULE: f0 f15 - f3 f12 + f5 f10 - f6 f9", TableEdgesTest::evenRule);
+        sentence("Terms 2", "With four LEGS, VALUES f(INDEX): EVEN RULE: f0 f15 - f3 f12 + f5 f10 - f6 f9",
+            TableEdgesTest::evenRule);
         sentence("Terms 2", "ODD RULE: f1 f14 - f2 f13 + f4 f11 - f8 f7.", TableEdgesTest::oddRule);
         sentence("Terms 2", "MADE is a TABLE, if its PARITY is not 3 and, with four LEGS, both RULES are 0.",
             TableEdgesTest::whatIsMade);
-        sentence("Terms 2", "its VALUES u (bit 0), v (bit 1), all other bits alike, become a u + b v and c u + d v.",
+        sentence("Terms 2", "A LEG is CHANGED by ((a, b), (c, d)): its VALUES u (bit 0), v (bit 1), all other bits alike, "
+            + "become a u + b v and c u + d v.",
             TableEdgesTest::legChanged);
         sentence("Terms 2", "BASED is a TABLE by a BASE if each LEG is CHANGED by it.", TableEdgesTest::eachLegChanged);
-        sentence("Terms 2", "of the matrix with a row for each setting of those, a column for each of the others.",
+        sentence("Terms 2", "RANK of a TABLE by some of its LEGS: of the matrix with a row for each setting of those, "
+            + "a column for each of the others.",
             TableEdgesTest::rankOfMatrix);
     }
 

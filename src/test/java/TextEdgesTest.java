@@ -30,6 +30,11 @@ public final class TextEdgesTest extends Checks {
         sentence("Terms 1", "(longer ones, all else are no TOKENS)", TextEdgesTest::noTokens);
         sentence("Terms 1", "TEXT: [ field NUMBER ; ] { LINE }.", TextEdgesTest::textOfLines);
         sentence("Terms 1", "field: P, a prime 3 to 97 (7 without).", TextEdgesTest::field);
+        sentence("Terms 1", "LINE: table NAME NUMBER { NUMBER } ;", TextEdgesTest::tokensOfTable);
+        sentence("Terms 1", "| gate NAME NUMBER NUMBER { NUMBER NUMBER NUMBER } ;", TextEdgesTest::tokensOfGate);
+        sentence("Terms 1", "| base NAME NUMBER NUMBER NUMBER NUMBER ;", TextEdgesTest::tokensOfBase);
+        sentence("Terms 1", "| node NAME NAME ;", TextEdgesTest::tokensOfNode);
+        sentence("Terms 1", "| wire NAME NUMBER NAME NUMBER ;", TextEdgesTest::tokensOfWire);
         sentence("Terms 1", "A NAME is a WORD but field, table, gate, base, node, wire", TextEdgesTest::namesAreNoKeywords);
         sentence("Terms 1", "no two are alike", TextEdgesTest::namesAreUnlike);
     }
@@ -205,6 +210,80 @@ public final class TextEdgesTest extends Checks {
         fault(1, "field^;");
         fault(1, "field 7 ^7;");
         fault(1, "field ^seven;");
+    }
+
+    private static void tokensOfTable() {
+        tokensOf("", "table k 1 2 3 ;");
+        tokensOf("", "table k 2 0 1 2 3 ;");
+        tokensOf(SOME, "table k 3 6 5 4 3 2 1 0 6 ;");
+    }
+
+    private static void tokensOfGate() {
+        tokensOf("", "gate k 3 2 ;");
+        tokensOf("", "gate k 3 2 0 1 6 ;");
+        tokensOf(SOME, "gate k 4 1 0 1 6 1 2 5 3 0 1 ;");
+        // An EDGE has three NUMBERS: neither one nor two are one.
+        fault(1, "gate k 3 2 0 1 6 1 ^;");
+        fault(1, "gate k 3 2 0 1 6 1 2 ^;");
+    }
+
+    private static void tokensOfBase() {
+        tokensOf("", "base k 1 2 3 4 ;");
+        tokensOf(SOME, "base k 6 5 4 3 ;");
+        fault(1, "base k 1 2 3 4 ^5 ;");
+    }
+
+    private static void tokensOfNode() {
+        tokensOf(SOME, "node k a ;");
+        tokensOf("gate g 1 1;", "node k g ;");
+        fault(1, SOME + "node k a ^0 ;");
+        fault(1, SOME + "node k ^0 a ;");
+    }
+
+    private static void tokensOfWire() {
+        tokensOf(SOME, "wire n 0 m 1 ;");
+        tokensOf(SOME, "wire m 1 m 0 ;");
+        fault(1, SOME + "wire n ^m 0 1 ;");
+        fault(1, SOME + "wire n 0 m 1 ^1 ;");
+    }
+
+    /**
+     * A good LINE behind others: it is taken, with blanks and with none that can be left out; a TOKEN
+     * of another sort in place of each one is a FAULT there, and so is the end.
+     */
+    private static void tokensOf(String ahead, String line) {
+        int linesAhead = tell(new HoloNet(), ahead);
+        lines(linesAhead + 1, ahead + line);
+        lines(linesAhead + 1, ahead + line.replace(" ;", ";"));
+        lines(linesAhead + 2, ahead + line + "table kk 1 0 0;");
+        String[] parts = line.split(" ");
+        for (int k = 0; k < parts.length; k++) {
+            String head = ahead + joined(parts, k);
+            if (k > 0) {
+                fault(1, head + "^");
+            }
+            for (String other : new String[] {"q", "1", ";", "field", "wire"}) {
+                if (!mayStand(other, parts, k, ahead.isEmpty())) {
+                    fault(1, head + "^" + other + " ;");
+                }
+            }
+        }
+    }
+
+    private static boolean mayStand(String token, String[] parts, int k, boolean atTheFirst) {
+        if (k == 0) {
+            return token.equals("wire") || (token.equals("field") && atTheFirst);
+        }
+        // Behind a gate's LEGS and behind each EDGE both the next EDGE and the end may stand.
+        boolean edgeOrEnd = parts[0].equals("gate") && k >= 4 && (k - 4) % 3 == 0;
+        return edgeOrEnd ? !Character.isLetter(token.charAt(0)) : sort(token).equals(sort(parts[k]));
+    }
+
+    private static String sort(String token) {
+        if (Arrays.asList(KEYWORDS).contains(token)) {
+            return "keyword";
+        }
+        return Character.isLetter(token.charAt(0)) ? "name" : token.equals(";") ? ";" : "number";
     }
 
     private static void field() {
